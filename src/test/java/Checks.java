@@ -1,0 +1,35 @@
+/** Counts the answers that are not as due and prints them. */
+final class Checks {
+  private final String name;
+  private int made;
+  private int wrong;
+
+  Checks(String name) {
+    this.name = name;
+  }
+
+  void due(String what, long got, long want) {
+    made++;
+    if (got == want) return;
+    wrong++;
+    System.out.println(name + ": " + what + " answered " + got + ", due is " + want);
+  }
+
+  void holds(String what, boolean is) {
+    made++;
+    if (is) return;
+    wrong++;
+    System.out.println(name + ": " + what + " does not hold");
+  }
+
+  /** What was refused changed nothing: the digest, which tells of nearly all, is as it was. */
+  void refused(String what, SteadyFund fund, long before, long got, long want) {
+    due(what, got, want);
+    due(what + ", then digest", fund.digest(), before);
+  }
+
+  void end() {
+    System.out.println(name + ": " + made + " checks, " + wrong + " not as due");
+    if (wrong != 0 || made == 0) System.exit(1);
+  }
+}
