@@ -412,7 +412,7 @@ public final class SteadyFund {
 
   private static long choose(int n, int k) {
     long ways = 1;
-    for (int i = 1; i <= k; i++) ways = ways * (n - k + i) / i;
+    for (int i = 1; i <= k; i++) ways = cut(ways * (n - k + i), i);
     return ways;
   }
 
