@@ -1132,7 +1132,6 @@ public final class SteadyFund {
     private static final int MOST_ROUNDS = 1000000;
 
     private final boolean fromAll;
-    private boolean settled;
     private final long[] coins = new long[HOUSES];
     private final int[] owed = new int[HOUSES * HOUSES];
     private final long[] dues = new long[HOUSES];
@@ -1146,10 +1145,9 @@ public final class SteadyFund {
       fromAll = isFromAll;
     }
 
-    /** Rounds may be many, so they are worked again only for other COINS or DUES than the last. */
+    /** Rounds may be many, so they are worked only for other COINS or DUES than the last; at first, with none, all is 0. */
     void settle(World world) {
-      if (!learn(world) && settled) return;
-      settled = true;
+      if (!learn(world)) return;
       begin();
       changes = 0;
       for (int round = 0; round < MOST_ROUNDS && changesInRound(); round++) changes++;

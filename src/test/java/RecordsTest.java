@@ -7,8 +7,11 @@ public final class RecordsTest {
     alter();
     check();
     checkOfHighBits();
+    checkOfOneSeal();
     image();
     imageOfAll();
+    imageOfOtherRows();
+    imageOfTheFallen();
     from();
     many();
     digestOfNew();
@@ -113,6 +116,24 @@ public final class RecordsTest {
     checks.due("not so many", x.check(50), -5);
   }
 
+  /** Two ROWS ALTERED so that the changes cancel out in one seal, 31 or 33 to the 3rd to 1, and not in the other. */
+  private static void checkOfOneSeal() {
+    for (int times : new int[] {31, 33}) {
+      SteadyFund x = new SteadyFund();
+      x.person(0, true);
+      x.puts(0, 77);
+      x.puts(0, 1000);
+      x.puts(0, 40000);
+      x.keep();
+      x.alter(1, 1);
+      x.alter(2, 40000 ^ 40000 - times * times * times);
+      checks.due("one seal alone is right", x.check(-1), 0);
+      checks.due("one seal alone is right", x.check(0), -5);
+      x.alter(1, 1);
+      checks.due("the last ROW", x.check(0), 2);
+    }
+  }
+
   /** Promise 44. */
   private static void image() {
     SteadyFund x = rows(6);
@@ -137,23 +158,44 @@ public final class RecordsTest {
   }
 
   private static SteadyFund withAll() {
-    SteadyFund x = rows(8);
-    x.terms(7, 30);
-    x.spans(2, 1, 5, 90000, 95000);
-    x.day(3, 10, 20, 30);
-    x.trade(3, 15, 5, 2);
-    x.index(3, 80);
-    x.gift(0, 1, 2, 50);
-    x.years(7, 5);
-    x.coin(1, 60);
-    x.due(1, 2, 100);
-    x.struck(true);
-    x.letter(1, 2, 3);
-    x.write('m');
-    x.write('>');
-    x.write('2');
-    x.hand(8, 4);
-    x.suit(90, 10, 5);
+    return fill(new SteadyFund(), 0);
+  }
+
+  /** Something of all, other numbers by another v. */
+  private static SteadyFund fill(SteadyFund x, int v) {
+    x.terms(7 - v, 30 + v);
+    for (int i = 0; i < 3; i++) x.person((i + v) % 3, v == 0 ? i != 1 : i == 1);
+    for (int i = 0; i < 6; i++) {
+      x.puts((i + v) % 3, 1000 + 7 * i + v);
+      x.months(1 + v % 2);
+      x.draws((i + 1 + v) % 3, 40 + i + v);
+    }
+    x.months(9);
+    x.puts((1 + v) % 3, 10000);
+    x.draws(v == 0 ? 0 : 1, 2050 + v);
+    x.draws(v == 0 ? 1 : 0, 30 + v);
+    x.months(1);
+    x.spans(2, 100 + v, 105 + 2 * v, 15000 - v, 16000 - v);
+    x.spans(v, v, 2 * v, 15000, 16000);
+    x.day(3, 10 + v, 20 + v, 30 + v);
+    x.trade(3 - v % 2, 15, 5 + v, 2 - v % 2);
+    x.trade(4, 100 - v, 6 + v, 1);
+    x.trade(3, 11, 22 + 7 * v, 3);
+    x.index(3, 80 + v);
+    x.index(15 + v, 120 - v);
+    x.gift((0 + v) % 3, (1 + v) % 3, 2 + v, 50 + v);
+    x.gift((1 + v) % 3, (2 + v) % 3, 1, 45 + v);
+    x.years(20 - v, 5 + v);
+    x.coin(1, 60 + v);
+    x.due(1, 2, 100 + v);
+    x.struck(v % 2 == 0);
+    x.letter(1 + v % 2, 2 + v, 3 + v);
+    x.letter(2 - v % 2, 4 + v, -1 + (v == 0 ? 0 : 9));
+    for (char c : "s>c*2-q".toCharArray()) x.write(v == 0 ? c : c == '2' ? '1' : c);
+    x.hand(8 + v % 2 * 16, 4 + v % 2 * 4);
+    x.hand(24, 14 - v % 2 * 2);
+    x.suit(90 + v, 10 + v, 5 + v);
+    x.suit(80 - v, 9 - v, 4 + v);
     return x;
   }
 
@@ -168,12 +210,10 @@ public final class RecordsTest {
     x.day(3, 1, 2, 3);
     x.day(4, 1, 2, 3);
     x.trade(4, 15, 5, 2);
-    x.trade(3, 15, 5, 2);
     x.index(3, 1);
     x.index(8, 1000);
     x.gift(1, 0, 2, 50);
-    x.gift(1, 0, 1, 40);
-    x.years(1, 60);
+    x.years(0, 0);
     x.coin(1, 5);
     x.coin(2, 5);
     x.due(1, 2, 1);
@@ -184,7 +224,6 @@ public final class RecordsTest {
     x.write('0');
     x.hand(1, 1);
     x.suit(1000, 10, 1);
-    x.draws(1, (int) x.shown(1));
   }
 
   /** What an object answers that the digest does not tell. */
@@ -192,9 +231,10 @@ public final class RecordsTest {
     long h = x.digest();
     for (int i = 0; i < 2; i++) {
       h = 31 * h + x.falls(i);
-      h = 31 * h + x.count(i, 2);
+      h = 31 * h + x.count(i + 1, 2);
       h = 31 * h + x.take(i, 0);
       h = 31 * h + x.take(i, 1);
+      h = 31 * h + x.dealt(i, 3, 5000);
       h = 31 * h + x.pays(1, i);
       h = 31 * h + x.rounds(i, 1);
       h = 31 * h + x.lost(7 * i);
@@ -216,14 +256,48 @@ public final class RecordsTest {
     spoil(x);
     checks.due("from(1)", x.from(1), 1);
     checks.due("all is as it was", answers(x), want);
-    SteadyFund fallen = withAll();
-    fallen.image(0);
-    spoil(fallen);
-    fallen.image(1);
-    long later = fallen.digest();
-    fallen.from(0);
-    fallen.from(1);
-    checks.due("the other IMAGE is one of its own", fallen.digest(), later);
+    SteadyFund two = withAll();
+    two.image(0);
+    spoil(two);
+    two.image(1);
+    long later = two.digest();
+    two.from(0);
+    two.from(1);
+    checks.due("the other IMAGE is one of its own", two.digest(), later);
+  }
+
+  /** What was ahead of the IMAGE is begun anew with other numbers: each ROW of each kind comes back. */
+  private static void imageOfOtherRows() {
+    for (int v = 0; v < 4; v++) {
+      long want = answers(fill(new SteadyFund(), v));
+      for (int w = 0; w < 4; w++) {
+        SteadyFund x = new SteadyFund();
+        x.image(0);
+        fill(x, v).image(1);
+        x.from(0);
+        checks.due("a new one again", x.digest(), new SteadyFund().digest());
+        long other = answers(fill(x, w));
+        checks.holds("other numbers, other answers", v == w || other != want);
+        x.from(1);
+        checks.due("filled by " + v + ", then by " + w, answers(x), want);
+      }
+    }
+  }
+
+  private static void imageOfTheFallen() {
+    SteadyFund x = rows(2);
+    x.image(0);
+    x.terms(20, 50);
+    x.months(2);
+    checks.due("draws", x.draws(0, 1000), 1);
+    checks.due("it falls", x.draws(1, 1020), 0);
+    x.image(1);
+    x.from(0);
+    checks.due("it stands again", x.account(3), SteadyFund.NONE);
+    checks.due("puts", x.puts(0, 5), 2);
+    x.from(1);
+    checks.due("it has fallen again", x.account(3), 4);
+    checks.due("puts", x.puts(0, 5), SteadyFund.NO);
   }
 
   /** Promise 45. */
@@ -245,33 +319,25 @@ public final class RecordsTest {
     checks.due("the RECORD stays", x.check(0), 1);
     checks.due("THE FRACTION stays", x.part(0), 20);
     checks.due("IMAGES stay", x.from(1), 1);
-    SteadyFund y = rows(2);
-    y.image(0);
-    y.months(1);
-    y.draws(0, 1000);
-    y.draws(0, 20);
-    y.draws(1, 1017);
-    y.terms(20, 50);
-    y.from(0);
-    y.puts(0, 1);
-    y.from(0);
-    checks.due("twice", y.many(1), 2);
+    x.puts(0, 1);
+    checks.due("from(1)", x.from(1), 1);
+    checks.due("twice", x.many(1), 3);
   }
 
   /** Promise 46. */
   private static void many() {
-    SteadyFund x = withAll();
+    SteadyFund x = rows(8);
     x.keep();
-    x.trade(9, 1, 1, 1);
-    x.hand(1, 1);
-    x.suit(1, 1, 1);
-    x.suit(1, 1, 1);
-    x.gift(0, 1, 1, 1);
-    x.gift(0, 1, 1, 1);
-    x.gift(0, 1, 1, 1);
     x.puts(0, 1);
-    x.person(0, true);
-    int[] due = {3, 9, 8, 2, 1, 4, 1, 2, 3, 3, 8};
+    for (int i = 0; i < 1; i++) x.person(0, true);
+    x.day(3, 10, 20, 30);
+    for (int i = 0; i < 5; i++) x.trade(3, i == 4 ? 21 : 15, 10, 0);
+    for (int i = 0; i < 6; i++) x.gift(0, 1, 1, 1);
+    for (int i = 0; i < 4; i++) x.letter(0, 0, 0);
+    for (int i = 0; i < 7; i++) x.hand(1, 1);
+    x.suit(1, 1, 1);
+    for (int i = 0; i < 12; i++) x.write('m');
+    int[] due = {3, 9, 8, 5, 2, 6, 4, 7, 1, 12, 8};
     for (int i = 0; i < due.length; i++) checks.due("many(" + i + ")", x.many(i), due[i]);
     checks.due("many(-1)", x.many(-1), SteadyFund.BAD);
     checks.due("many(11)", x.many(11), SteadyFund.BAD);
@@ -297,27 +363,33 @@ public final class RecordsTest {
     x.terms(5, 10);
     x.person(-1, true);
     x.person(6, false);
+    x.person(3, true);
     x.puts(1, 1000);
     x.months(1);
     x.draws(1, 10);
+    x.puts(2, 8);
+    x.day(3, 10, 20, 30);
     x.trade(3, 15, 5, 2);
-    x.gift(1, 0, 2, 50);
+    x.trade(4, 16, 6, 1);
+    x.gift(1, 2, 3, 50);
     x.letter(1, 2, -1);
+    x.letter(3, 4, 5);
     x.hand(8, 4);
     x.suit(90, 10, 5);
     x.write('m');
+    x.write('!');
     x.keep();
     x.alter(1, 1);
     x.even(1, 1, 1, 3);
     x.coin(7, 9);
     x.due(7, 0, 2);
     x.due(7, 6, 3);
-    long[] head = {2, 2, 1, 1, 1, 1, 1, 1, 1, 1, 2, 985, 1000, 5, -1, 1000, 10,
-        -1, 1, 0, 6, 0, 1000, 1, 0, 1000, 1, 1, -10, 3, 15, 5, 2, 1, 0, 2, 50};
-    long[] all = new long[head.length + 72 + 3 + 2 + 3 + 1 + 2 + 2];
+    long[] head = {3, 3, 1, 2, 1, 1, 2, 1, 1, 2, 3, 993, 1008, 5, -1, 1008, 10,
+        -1, 1, 0, 6, 0, 1000, 3, 1, 8, 1, 0, 1000, 1, 1, -10, 2, 1, 8, 3, 15, 5, 2, 4, 16, 6, 1, 1, 2, 3, 50};
+    long[] tail = {9, 2, 0, 0, 0, 0, 0, 3, 0, 1, 2, -1, 3, 4, 5, 8, 4, 90, 10, 5, 'm', '!', 1000, -10 ^ 1, 8, 1, 3};
+    long[] all = new long[head.length + 63 + tail.length];
     System.arraycopy(head, 0, all, 0, head.length);
-    int at = head.length + 63;
-    for (long v : new long[] {9, 2, 0, 0, 0, 0, 0, 3, 0, 1, 2, -1, 8, 4, 90, 10, 5, 'm', 1000, -10 ^ 1, 1, 3}) all[at++] = v;
+    System.arraycopy(tail, 0, all, head.length + 63, tail.length);
     checks.due("of each a little", x.digest(), told(all));
   }
 }
