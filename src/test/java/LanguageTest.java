@@ -16,10 +16,6 @@ import java.util.regex.Pattern;
 /** Rules of ../shared/LANGUAGE.md that can be read off the class or its text. */
 public final class LanguageTest {
   private static final Checks checks = new Checks("LanguageTest");
-  private static final String[] FACE = {"person", "terms", "puts", "draws", "months", "shown", "account", "spans", "falls",
-      "day", "trade", "wrong", "first", "even", "funds", "part", "index", "count", "dealt", "tide", "moved", "gift", "years",
-      "take", "coin", "due", "struck", "pays", "rounds", "letter", "write", "erase", "fault", "bound", "lost", "hand",
-      "whose", "suit", "best", "keep", "alter", "check", "image", "from", "many", "digest"};
 
   public static void main(String[] args) throws IOException {
     String source = Files.readString(Path.of("src/main/java/SteadyFund.java"), StandardCharsets.US_ASCII);
@@ -35,12 +31,12 @@ public final class LanguageTest {
 
   /** Rule 1. */
   private static void face() {
-    Set<String> due = new TreeSet<>(List.of(FACE)), is = new TreeSet<>();
+    Set<String> due = new TreeSet<>(List.of(Calls.NAMES)), is = new TreeSet<>();
     for (Method m : SteadyFund.class.getDeclaredMethods()) {
       if (Modifier.isPublic(m.getModifiers())) is.add(m.getName());
       else checks.holds("rule 1: " + m.getName() + " is private", Modifier.isPrivate(m.getModifiers()));
     }
-    checks.holds("the face has just the document's methods", due.equals(is) && is.size() == FACE.length);
+    checks.holds("the face has just the document's methods", due.equals(is) && is.size() == Calls.NAMES.length);
     for (Field f : SteadyFund.class.getDeclaredFields()) {
       boolean isConstant = List.of("NONE", "BAD", "NO", "FULL").contains(f.getName());
       checks.holds("rule 1: " + f.getName(), isConstant ? Modifier.isPublic(f.getModifiers()) : Modifier.isPrivate(f.getModifiers()));
@@ -64,7 +60,7 @@ public final class LanguageTest {
     for (Method m : c.getDeclaredMethods()) {
       checks.holds("rule 11: parameters of " + m.getName(), m.getParameterCount() <= 7);
       checks.holds("rule 6: " + m.getName(), !Set.of("equals", "hashCode", "toString").contains(m.getName()));
-      if (c != SteadyFund.class) checks.holds("rule 1: the name " + m.getName(), !List.of(FACE).contains(m.getName()));
+      if (c != SteadyFund.class) checks.holds("rule 1: the name " + m.getName(), !List.of(Calls.NAMES).contains(m.getName()));
     }
   }
 
