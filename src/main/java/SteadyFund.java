@@ -24,7 +24,7 @@ public final class SteadyFund {
   private final Tide rising = new Tide();
   private final Clearing least = new Clearing(false);
   private final Clearing greatest = new Clearing(true);
-  private final RuleReader reader = new RuleReader(world.letters);
+  private final RuleReader reader = new RuleReader();
 
   public SteadyFund() {
   }
@@ -276,14 +276,14 @@ public final class SteadyFund {
   }
 
   public int fault() {
-    return reader.faultFound();
+    return reader.faultOf(world.letters);
   }
 
   public long bound() {
-    if (reader.faultFound() != NONE) return NO;
+    if (reader.faultOf(world.letters) != NONE) return NO;
     long bits = 0;
     for (int m = 0; m < world.ledger.now; m++) {
-      reader.learn(world.ledger, m);
+      reader.learn(world.ledger, world.letters, m);
       if (reader.valueRead() != 0) bits |= 1L << m;
     }
     return bits;
@@ -1216,27 +1216,27 @@ public final class SteadyFund {
     private static final int MISPLACED = 1, TOO_LONG = 2, TOO_DEEP = 3;
 
     private final long[] named = new long[7];
-    private final Letters text;
+    private final int[] text = new int[CHARACTERS];
+    private int length;
     private int place;
     private int open;
     private int found;
 
-    RuleReader(Letters letters) {
-      text = letters;
-    }
-
-    int faultFound() {
+    /** The text is taken here, so that its value is worked for each month without a look at what else LETTERS hold. */
+    int faultOf(Letters letters) {
+      System.arraycopy(letters.rules, 0, text, 0, CHARACTERS);
+      length = letters.length;
       valueRead();
       return found;
     }
 
-    void learn(Ledger ledger, int month) {
+    void learn(Ledger ledger, Letters letters, int month) {
       named[0] = ledger.coinsAtEnd[month];
       named[1] = ledger.shownAtEnd[month];
       named[2] = ledger.inOfAll(month, month);
       named[3] = ledger.outOfAll(month, month);
-      named[4] = text.askedBy(month);
-      named[5] = text.readBy(month);
+      named[4] = letters.askedBy(month);
+      named[5] = letters.readBy(month);
       named[6] = month;
     }
 
@@ -1321,17 +1321,17 @@ public final class SteadyFund {
 
     private long number() {
       int end = place;
-      while (end < text.length && isDigit(text.rules[end])) end++;
+      while (end < length && isDigit(text[end])) end++;
       if (end - place > MOST_DIGITS) return refuse(TOO_LONG);
       long v = 0;
-      for (; place < end; place++) v = 10 * v + text.rules[place] - '0';
+      for (; place < end; place++) v = 10 * v + text[place] - '0';
       return v;
     }
 
     /** The character that comes, behind blanks; NONE at the end. */
     private int next() {
-      while (place < text.length && text.rules[place] == ' ') place++;
-      return place < text.length ? text.rules[place] : NONE;
+      while (place < length && text[place] == ' ') place++;
+      return place < length ? text[place] : NONE;
     }
 
     private boolean takes(char sign) {

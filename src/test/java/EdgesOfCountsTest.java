@@ -17,7 +17,10 @@ public final class EdgesOfCountsTest {
     tideOfNothing();
     tideOneAtMost();
     tideUncutThenCut();
+    tideOfTwelveSteps();
+    outOfMonthZero();
     movedMoreOrLess();
+    movedByCountZero();
     movedBits();
     giftAsFarAsItGoes();
     giftsInOrder();
@@ -263,6 +266,54 @@ public final class EdgesOfCountsTest {
     tide(y, 31, 1, 1, 7, 11, 13);
   }
 
+  private static void putAll(SteadyFund x, int person, int sum) {
+    for (int left = sum; left > 0; left -= MOST) x.puts(person, Math.min(MOST, left));
+  }
+
+  private static void drawAll(SteadyFund x, int person, int sum) {
+    for (int left = sum; left > 0; left -= MOST) checks.due("OUT", x.draws(person, Math.min(MOST, left)), 1);
+  }
+
+  /** PERSON p is reached at p + 1 by 13 and put in thrice as much as the one ahead: L goes down a step for each. */
+  private static void tideOfTwelveSteps() {
+    SteadyFund x = new SteadyFund();
+    x.terms(0, 50);
+    int[] power = new int[12];
+    for (int p = 0; p < 12; p++) {
+      power[p] = p == 0 ? 1 : 3 * power[p - 1];
+      x.person(-1, true);
+      putAll(x, p, 13 * power[p]);
+    }
+    for (int p = 0; p < 12; p++) drawAll(x, p, (p + 1) * power[p]);
+    tide(x, 0, 1, 13, new int[12]);
+    tide(x, 1, 2, 13, 1, 0, 0);
+    long sum = 0;
+    for (int steps = 1; steps <= 12; steps++) {
+      sum = 0;
+      for (int p = 0; p < steps; p++) sum += (steps - p) * power[p];
+      tide(x, (int) sum, steps == 12 ? 1 : steps + 1, steps == 12 ? 1 : 13, steps, 3 * (steps - 1));
+      checks.due("the next is just not reached", x.dealt(Math.min(11, steps), 3, (int) sum), steps == 12 ? power[11] : 0);
+    }
+  }
+
+  /** "all he put IN", "all his OUT": those of month 0, too. */
+  private static void outOfMonthZero() {
+    SteadyFund x = new SteadyFund();
+    x.terms(0, 50);
+    x.person(0, true);
+    x.person(0, false);
+    x.puts(0, 100);
+    x.puts(1, 100);
+    x.draws(0, 50);
+    tide(x, 60, 11, 20, 5, 55);
+    x.months(12);
+    tide(x, 60, 11, 20, 5, 55);
+    checks.due("COUNT 0", x.count(0, 0), 50);
+    checks.due("OUT 50 less IN 100", x.take(0, 0), 0);
+    x.draws(0, 60);
+    checks.due("OUT 110 less IN 100", x.take(0, 0), 10);
+  }
+
   /** "PERSONS who get more by TIDE than DEALT by COUNT 0 (bits), less": as much is neither. */
   private static void movedMoreOrLess() {
     SteadyFund x = of(n(100, 100), n(0, 50));
@@ -276,6 +327,17 @@ public final class EdgesOfCountsTest {
       checks.due("alike: none more", y.moved(sum, 0), 0);
       checks.due("alike: none less", y.moved(sum, 1), 0);
     }
+  }
+
+  /** "DEALT by COUNT 0": neither INDEX nor what is SHOWN moves it. */
+  private static void movedByCountZero() {
+    SteadyFund x = of(n(100, 100), n());
+    x.puts(0, 100);
+    checks.due("as put in, 200 by 100: none more", x.moved(150, 0), 0);
+    x.index(0, 1);
+    checks.due("by INDEX 1 gets nearly all", x.dealt(1, 2, 150), 74);
+    checks.due("none more", x.moved(150, 0), 0);
+    checks.due("none less", x.moved(150, 1), 0);
   }
 
   /** All twelve bits. */

@@ -25,6 +25,7 @@ public final class EdgesOfLettersTest {
     allIsWorked();
     cutTowardZero();
     byZeroIsZero();
+    longsNotInts();
     longsWrap();
     order();
     monthsThatHaveEnded();
@@ -337,6 +338,15 @@ public final class EdgesOfLettersTest {
     for (String text : new String[] {"5/0=0", "-5/0=0", "0/0=0", "5/(1-1)=0", "5/0/0=0", "5/0+1=1", "5/-0=0", "1/(5/0)=0",
         "6/!1=0", "2*3/0=0", "5/0*7=0"}) holds(text, true);
     holds("5/0", false);
+  }
+
+  /** 65536 twice is 2 to the 32nd, of which an int would keep 0. */
+  private static void longsNotInts() {
+    String big = "65536*65536";
+    for (String text : new String[] {big, "-" + big, "0+" + big, "0-" + big, "0|" + big, big + "|0", "1&" + big, big + "&1",
+        "2*(" + big + ")", "(" + big + ")/2", big + ">0", "0<" + big, big + "/65536=65536", "-" + big + "<0", "(" + big + ")",
+        big + "-1>999999", "32768*65536>0", "-32768*65536-1<0"}) holds(text, true);
+    for (String text : new String[] {"!(" + big + ")", "0=" + big, big + "=0", big + "<1", "-" + big + "=0"}) holds(text, false);
   }
 
   /** 524288 is 2 to the 19th: three of them and 64 are 2 to the 63rd, which is below 0. */

@@ -1,5 +1,6 @@
 import java.math.BigInteger;
 import java.util.ArrayList;
+import java.util.Arrays;
 import java.util.List;
 
 /** Terms 5, promises 41 to 47: the edges of the RECORD, of what is ALTERED in it, of CHECK, IMAGES, many and digest. */
@@ -25,7 +26,10 @@ public final class EdgesOfRecordsTest {
     allButTheRecord();
     fallenAndBack();
     fullAndBack();
+    fullOfOtherNumbers();
     hiddenNumbersToo();
+    eachSpanToo();
+    objectsOfTheirOwn();
     manyOfEach();
     digestOfTheFull();
     checks.end();
@@ -319,6 +323,95 @@ public final class EdgesOfRecordsTest {
     checks.due("a GIFT", x.gift(0, 1, 0, 1), SteadyFund.FULL);
     checks.due("a TRADE", x.trade(0, 1, 1, 1), SteadyFund.FULL);
     checks.due("a character", x.write('1'), SteadyFund.FULL);
+  }
+
+  /** PERSONS, ROWS and GIFTS, as many as can come, with numbers that another v makes others. */
+  private static void fillFund(SteadyFund x, int v) {
+    for (int i = 0; i < 12; i++) x.person((i + v) % 8, (i + v) % 3 == 0);
+    for (int i = 0; i < 100; i++) {
+      x.puts((i + v) % 12, 1000 + 10 * i + v);
+      if (i % 10 == 9) x.months(1 + v);
+    }
+    for (int i = 0; i < 30; i++) x.gift((i + v) % 12, (i + 5 + 3 * v) % 12, (7 * i + v) % 60, 40 + i + v);
+    x.spans(11, 7 + v, 9 + v, 200000 * v, 300000 * v);
+  }
+
+  /** TRADES, HANDS, SUITS, LETTERS, RULES and DUES, likewise; by v = 1 two TRADES are at an end of what day 29 allows. */
+  private static void fillRest(SteadyFund x, int v) {
+    for (int i = 0; i < 40; i++) x.trade((i + 19 + v) % 30, 1 + i + v, 5 + v, (i + v) % 4);
+    for (int i = 0; i < 20; i++) x.letter((i + v) % 4, i + v, i + 2 * v);
+    for (int i = 0; i < 40; i++) x.write('0' + (i + v) % 10);
+    for (int i = 0; i < 8; i++) {
+      x.hand(99 + i << v, 1 + v);
+      x.suit(100 + i + v, 10 + v, 3 + v);
+      x.coin(i, 77 + v);
+      x.due(i, (i + 7) % 8, 99 + v);
+    }
+    x.day(29, 10 + v, 42 - v, 7 - v);
+  }
+
+  private static void fill(SteadyFund x, boolean isFund, int v) {
+    if (isFund) fillFund(x, v);
+    else fillRest(x, v);
+  }
+
+  /** From an IMAGE of the full, filled anew with other numbers meanwhile: the last one of each comes back, too. */
+  private static void fullOfOtherNumbers() {
+    for (int i = 0; i < 2; i++) {
+      SteadyFund due = new SteadyFund(), x = new SteadyFund();
+      for (SteadyFund y : new SteadyFund[] {due, x}) {
+        y.image(0);
+        fill(y, i == 0, 1);
+        y.image(1);
+      }
+      x.from(0);
+      fill(x, i == 0, 2);
+      checks.holds("other numbers", x.digest() != due.digest());
+      x.from(1);
+      checks.holds("as it was when full", Arrays.equals(Scene.answers(due), Scene.answers(x)));
+    }
+  }
+
+  /** SPANS of each month, each of the four numbers: COIN that is just enough by them is one too few by others. */
+  private static void eachSpanToo() {
+    int[][] spans = {{10, 20, 30, 40}, {9, 20, 30, 40}, {10, 20, 30, 41}, {10, 19, 30, 40}, {10, 20, 31, 40}};
+    for (int i = 0; i < 12; i++) {
+      for (int other = 1; other < 5; other++) {
+        SteadyFund x = new SteadyFund();
+        x.person(0, true);
+        x.puts(0, other < 3 ? 30 : 10);
+        for (int kept : new int[] {0, other}) {
+          int[] a = spans[kept], b = spans[other - kept];
+          x.spans(i, a[0], a[1], a[2], a[3]);
+          x.image(0);
+          x.spans(i, b[0], b[1], b[2], b[3]);
+          x.from(0);
+          checks.due("SPANS as they were", x.falls(other < 3 ? 0 : 1), kept == 0 ? NONE : i);
+        }
+      }
+    }
+  }
+
+  /** Two objects know nothing of each other. */
+  private static void objectsOfTheirOwn() {
+    SteadyFund x = rows(5), y = new SteadyFund();
+    long empty = y.digest();
+    x.keep();
+    x.image(0);
+    x.even(1, 1, 1, 2);
+    Calls.rules(x, "m");
+    x.coin(0, 5);
+    x.due(0, 1, 9);
+    checks.due("pays", x.pays(0, 0), 5);
+    checks.due("the other one is new", y.digest(), empty);
+    checks.due("it has no IMAGE", y.from(0), NO);
+    checks.due("it pays nothing", y.pays(0, 0), 0);
+    checks.due("its RULES are empty", y.fault(), 1);
+    checks.due("its RECORD is empty", y.alter(0, 1), BAD);
+    y.coin(0, 7);
+    y.due(0, 1, 9);
+    checks.due("each by its own", y.pays(0, 0), 7);
+    checks.due("each by its own", x.pays(0, 0), 5);
   }
 
   /** What the digest does not tell: FEE, RATE, SPANS, days, INDEX, YEARS, STRUCK, and COIN and SHOWN as MONTHS ended. */

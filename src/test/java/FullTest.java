@@ -16,6 +16,7 @@ public final class FullTest {
     rowsOfTheRecord();
     images();
     months();
+    calls();
     checks.end();
   }
 
@@ -261,6 +262,27 @@ public final class FullTest {
       for (int more = n + 1; more <= 12; more++) checks.due("beyond 59", y.months(more), BAD);
       checks.due("now stays", y.many(2), 59 - n);
       checks.due("to 59", y.months(n), 59);
+    }
+  }
+
+  /** "An object is used for at most 512 calls": the last is answered like any, whatever was called again and again. */
+  private static void calls() {
+    String[] names = {"shown", "digest", "keep", "image", "from", "write", "erase", "check", "tide", "even", "moved", "terms",
+        "index", "day", "spans", "coin", "due", "years", "pays", "bound", "whose"};
+    for (String name : names) {
+      SteadyFund x = new SteadyFund(), y = new SteadyFund();
+      for (SteadyFund z : new SteadyFund[] {x, y}) {
+        z.person(0, true);
+        z.puts(0, 500);
+        z.image(0);
+        if (name.equals("keep")) z.keep();
+      }
+      for (int i = 4; i < 508; i++) Calls.call(x, name, 0, 0, 1, 2, 3);
+      x.erase();
+      x.coin(0, 0);
+      x.even(1, 1, 1, 2);
+      y.even(1, 1, 1, 2);
+      checks.due("the 512th call, behind " + name, x.digest(), y.digest());
     }
   }
 }

@@ -2,7 +2,7 @@ import com.sun.management.ThreadMXBean;
 import java.lang.management.ManagementFactory;
 import java.util.Random;
 
-/** Wild arguments in any state never throw, and calls make nothing new but an IMAGE's first keeping. */
+/** Wild arguments in any state never throw, and no run of calls takes much room. */
 public final class RoomTest {
   private static final Checks checks = new Checks("RoomTest");
   private static final int[] WILD = {Integer.MIN_VALUE, Integer.MIN_VALUE + 1, -1000001, -2, -1, 0, 1, 2, 3, 7, 8, 11, 12,
@@ -25,22 +25,23 @@ public final class RoomTest {
     checks.holds("no call threw", true);
   }
 
+  /** A run's room holds 7.3 million fields and elements: no run of an object takes a hundredth of it, whichever its calls. */
   private static void room() {
     ThreadMXBean bean = (ThreadMXBean) ManagementFactory.getThreadMXBean();
     long self = Thread.currentThread().getId();
     Random random = new Random(6);
     SteadyFund warm = new SteadyFund();
     for (int i = 0; i < 20000; i++) call(warm, i % Calls.NAMES.length, random, false);
-    long before = bean.getThreadAllocatedBytes(self);
-    SteadyFund x = new SteadyFund();
-    x.image(0);
-    x.image(1);
-    long made = bean.getThreadAllocatedBytes(self) - before;
-    checks.holds("an object with its IMAGES takes no more than 60000 bytes: " + made, made < 60000);
-    before = bean.getThreadAllocatedBytes(self);
-    for (int i = 0; i < 20000; i++) call(x, i % Calls.NAMES.length, random, false);
-    made = bean.getThreadAllocatedBytes(self) - before;
-    checks.holds("20000 calls make next to nothing: " + made, made < 10000);
+    for (int which = 0; which < Calls.NAMES.length; which++) {
+      long before = bean.getThreadAllocatedBytes(self);
+      SteadyFund x = new SteadyFund();
+      x.image(0);
+      x.image(1);
+      for (int i = 0; i < 255; i++) call(x, i % Calls.NAMES.length, random, false);
+      for (int i = 0; i < 255; i++) call(x, which, random, false);
+      long made = bean.getThreadAllocatedBytes(self) - before;
+      checks.holds("room of a run of " + Calls.NAMES[which] + ": " + made + " bytes", made < 73000 * 8);
+    }
   }
 
   /** A pair from and to is often in order, and RULES are seldom erased, so that calls come far. */
