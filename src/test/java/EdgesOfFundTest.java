@@ -297,7 +297,8 @@ public final class EdgesOfFundTest {
       coin -= coin * 20 / 1000;
       shown += shown * 50 / 1000;
       x.months(1);
-      is(x, "month " + m, coin, shown, 0);
+      checks.due("COIN behind month " + m, x.account(0), coin);
+      checks.due("SHOWN behind month " + m, x.shown(0), shown);
       checks.due("FEES", x.account(2), fees);
       checks.due("LOST", x.lost(m), fees);
     }

@@ -31,8 +31,10 @@ public final class EdgesOfPaperTest {
       checks.due("shut", x.wrong(d), 1);
     }
     for (int d = 0; d < 30; d++) {
+      checks.due("the first that is shut", x.first(), d);
       checks.due("opened", x.day(d, 10000, 10000, 1), 1);
-      for (int t = 0; t < 30; t++) checks.due("of day " + t, x.wrong(t), t <= d ? 0 : 1);
+      checks.due("open", x.wrong(d), 0);
+      checks.due("the others are shut", x.many(4), 29 - d);
     }
     checks.due("all are right", x.first(), NONE);
   }

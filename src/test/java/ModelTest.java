@@ -2,7 +2,7 @@ import java.util.Random;
 
 /** Long runs of calls, of several kinds, each answered by the class and by the model. The seeds are fixed. */
 public final class ModelTest {
-  private static final int CALLS = 512;
+  private static final int CALLS = 512, MOST_OF_A_STEP = 5;
   private static final String SIGNS = "csioqrm0123456789()!-+*/<>=&| x\u0000";
 
   private final Checks checks;
@@ -13,6 +13,7 @@ public final class ModelTest {
   private final Model model = new Model();
   private String text = "";
   private int typed = 0;
+  private int made = 0;
 
   private ModelTest(Checks checks, int run, int kind) {
     this.checks = checks;
@@ -29,9 +30,9 @@ public final class ModelTest {
   }
 
   private void go() {
-    for (int call = 0; call < CALLS; call++) {
-      if (call < 8 && kind != 7) person();
-      else if (call % 16 == 15) due("digest()", fund.digest(), model.digest());
+    for (int step = 0; made <= CALLS - MOST_OF_A_STEP; step++) {
+      if (step < 8 && kind != 7) person();
+      else if (step % 16 == 15) due("digest()", fund.digest(), model.digest());
       else step();
     }
   }
@@ -51,6 +52,7 @@ public final class ModelTest {
   }
 
   private void due(String what, long got, long want) {
+    made++;
     checks.due("run " + run + ": " + what, got, want);
   }
 

@@ -30,18 +30,22 @@ public final class RoomTest {
     ThreadMXBean bean = (ThreadMXBean) ManagementFactory.getThreadMXBean();
     long self = Thread.currentThread().getId();
     Random random = new Random(6);
-    SteadyFund warm = new SteadyFund();
-    for (int i = 0; i < 20000; i++) call(warm, i % Calls.NAMES.length, random, false);
+    for (int i = 0; i < 40; i++) run(i, random);
     for (int which = 0; which < Calls.NAMES.length; which++) {
       long before = bean.getThreadAllocatedBytes(self);
-      SteadyFund x = new SteadyFund();
-      x.image(0);
-      x.image(1);
-      for (int i = 0; i < 255; i++) call(x, i % Calls.NAMES.length, random, false);
-      for (int i = 0; i < 255; i++) call(x, which, random, false);
+      run(which, random);
       long made = bean.getThreadAllocatedBytes(self) - before;
       checks.holds("room of a run of " + Calls.NAMES[which] + ": " + made + " bytes", made < 73000 * 8);
     }
+  }
+
+  /** 512 calls: both IMAGES, then all calls in turn, then one again and again. */
+  private static void run(int which, Random random) {
+    SteadyFund x = new SteadyFund();
+    x.image(0);
+    x.image(1);
+    for (int i = 0; i < 255; i++) call(x, i % Calls.NAMES.length, random, false);
+    for (int i = 0; i < 255; i++) call(x, which, random, false);
   }
 
   /** A pair from and to is often in order, and RULES are seldom erased, so that calls come far. */

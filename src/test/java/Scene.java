@@ -45,9 +45,10 @@ enum Scene {
   static long[] answers(SteadyFund x) {
     List<Long> all = new ArrayList<>();
     count(x, all);
-    for (int p = 0; p < x.many(0); p++) askPerson(x, p, all);
+    int persons = x.many(0), trades = x.many(3);
+    for (int p = 0; p < persons; p++) askPerson(x, p, all);
     for (int i = 0; i < 3; i++) all.add(x.count(-1, i));
-    for (int t = 0; t < x.many(3); t++) all.add((long) x.wrong(t));
+    for (int t = 0; t < trades; t++) all.add((long) x.wrong(t));
     for (int h = 0; h < 8; h++) all.add((long) x.pays(h, h % 2));
     for (int i = 0; i < 4; i++) all.add((long) x.rounds(i / 2, i % 2));
     for (int i = 0; i < 4; i++) all.add((long) x.whose(i));
