@@ -1,11 +1,27 @@
 /** Counts the answers that are not as due and prints them. */
 final class Checks {
+  private static final long MOST_MILLISECONDS = 200000;
+
   private final String name;
   private int made;
   private int wrong;
 
   Checks(String name) {
     this.name = name;
+    Thread watch = new Thread(this::watch);
+    watch.setDaemon(true);
+    watch.start();
+  }
+
+  /** A call that does not end fails the test, too. */
+  private void watch() {
+    try {
+      Thread.sleep(MOST_MILLISECONDS);
+    } catch (InterruptedException e) {
+      return;
+    }
+    System.out.println(name + ": a call does not end");
+    Runtime.getRuntime().halt(1);
   }
 
   void due(String what, long got, long want) {
